@@ -5,6 +5,7 @@ public final class TakeTest {
         takesTheFirstSent(check);
         refusesWhatIsNotThere(check);
         leavesTheOthersWhole(check);
+        leavesOtherGoalsAlone(check);
         makesRoom(check);
         check.end();
     }
@@ -69,6 +70,19 @@ public final class TakeTest {
         check.due("word 1 from 5", x.word(Mesh.both(9, 5), 0, 1), 51);
         check.due("take of the last", x.take(9, 5), 2);
         check.due("sum(9)", x.sum(9), 10 + 93 + 210);
+    }
+
+    private static void leavesOtherGoalsAlone(Check check) {
+        MeshRouters x = new MeshRouters();
+        for (int goal = 0; goal < 16; goal++) {
+            Mesh.send(x, 7, goal, goal, 2 * goal);
+        }
+        x.settle();
+        check.due("take(3, 7)", x.take(3, 7), 2);
+        for (int goal = 0; goal < 16; goal++) {
+            check.due("held(" + goal + ")", x.held(goal), goal == 3 ? 0 : 1);
+            check.due("sum(" + goal + ")", x.sum(goal), goal == 3 ? 0 : 3 * goal);
+        }
     }
 
     private static void makesRoom(Check check) {
