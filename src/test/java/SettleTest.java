@@ -5,7 +5,6 @@ public final class SettleTest {
         countsArrivals(check);
         countsCrossings(check);
         tellsEveryDistance(check);
-        refusesWrongPlaces(check);
         check.end();
     }
 
@@ -76,14 +75,5 @@ public final class SettleTest {
             steps++;
         }
         return steps;
-    }
-
-    private static void refusesWrongPlaces(Check check) {
-        MeshRouters x = new MeshRouters();
-        for (int p : Mesh.NOT_PLACES) {
-            check.due("distance(" + p + ", 0)", x.distance(p, 0), MeshRouters.BAD);
-            check.due("distance(0, " + p + ")", x.distance(0, p), MeshRouters.BAD);
-            check.due("distance(" + p + ", " + p + ")", x.distance(p, p), MeshRouters.BAD);
-        }
     }
 }

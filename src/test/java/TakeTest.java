@@ -3,7 +3,6 @@ public final class TakeTest {
     public static void main(String[] args) {
         Check check = new Check();
         takesTheFirstSent(check);
-        refusesWhatIsNotThere(check);
         leavesTheOthersWhole(check);
         leavesOtherGoalsAlone(check);
         makesRoom(check);
@@ -27,23 +26,6 @@ public final class TakeTest {
         check.due("messages()", x.messages(), 0);
         check.due("held(6)", x.held(6), 0);
         check.due("sum(6)", x.sum(6), 0);
-    }
-
-    private static void refusesWhatIsNotThere(Check check) {
-        MeshRouters x = new MeshRouters();
-        Mesh.send(x, 0, 15, 1, 2);
-        check.due("take of one waiting", x.take(15, 0), MeshRouters.BAD);
-        check.due("waiting(0)", x.waiting(0), 1);
-        x.settle();
-        for (int p : Mesh.NOT_PLACES) {
-            check.due("take(" + p + ", 0)", x.take(p, 0), MeshRouters.BAD);
-            check.due("take(15, " + p + ")", x.take(15, p), MeshRouters.BAD);
-        }
-        check.due("take the wrong way round", x.take(0, 15), MeshRouters.BAD);
-        check.due("take from another source", x.take(15, 1), MeshRouters.BAD);
-        check.due("take at another goal", x.take(14, 0), MeshRouters.BAD);
-        check.due("messages()", x.messages(), 1);
-        check.due("take", x.take(15, 0), 2);
     }
 
     private static void leavesTheOthersWhole(Check check) {
