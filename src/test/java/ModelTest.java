@@ -49,6 +49,10 @@ public final class ModelTest {
         return p < 0 || p > 15;
     }
 
+    private static int distance(int a, int b) {
+        return Math.abs(a % 4 - b % 4) + Math.abs(a / 4 - b / 4);
+    }
+
     private List<Message> at(int goal, int source) {
         List<Message> found = new ArrayList<>();
         for (Message m : there) {
@@ -112,9 +116,7 @@ public final class ModelTest {
     private void settle(String where) {
         int want = waiting.size();
         for (Message m : waiting) {
-            int columns = Math.abs(m.source % 4 - m.goal % 4);
-            int rows = Math.abs(m.source / 4 - m.goal / 4);
-            crossings += (m.words.size() + 1) * (columns + rows);
+            crossings += (m.words.size() + 1) * distance(m.source, m.goal);
         }
         // All that waited were sent after all that were there.
         there.addAll(waiting);
@@ -157,7 +159,8 @@ public final class ModelTest {
             case 23 -> check.due(where + "arrived(" + goal + ", " + source + ")", x.arrived(goal, source),
                 bad(goal) || bad(source) ? MeshRouters.BAD : at(goal, source).size());
             case 24, 25 -> askWords(where, goal, source, i);
-            case 26, 27, 28 -> askWord(where, goal, source, i);
+            case 26, 27 -> askWord(where, goal, source, i);
+            case 28 -> askDistance(where, goal, source);
             case 29 -> askHeld(where, goal);
             case 30 -> askSum(where, goal);
             default -> askHold(where, source);
@@ -177,13 +180,20 @@ public final class ModelTest {
 
     private void askWord(String where, int goal, int source, int i) {
         int k = pick(7) - 1;
-        int both = bad(goal) || bad(source) ? -1 - pick(300) : goal + 16 * source;
-        List<Message> those = both < 0 ? List.of() : at(goal, source);
+        boolean wrong = bad(goal) || bad(source);
+        int outside = pick(2) == 0 ? -1 - pick(300) : 256 + pick(300);
+        int both = wrong ? outside : goal + 16 * source;
+        List<Message> those = wrong ? List.of() : at(goal, source);
         int want = 0;
         if (i >= 0 && i < those.size() && k >= 0 && k < those.get(i).words.size()) {
             want = those.get(i).words.get(k);
         }
         check.due(where + "word(" + both + ", " + i + ", " + k + ")", x.word(both, i, k), want);
+    }
+
+    private void askDistance(String where, int a, int b) {
+        int want = bad(a) || bad(b) ? MeshRouters.BAD : distance(a, b);
+        check.due(where + "distance(" + a + ", " + b + ")", x.distance(a, b), want);
     }
 
     private void askHeld(String where, int goal) {
